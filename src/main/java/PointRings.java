@@ -1,5 +1,3 @@
-import java.util.Arrays;
-
 /**
  * Curves y^2 = x^3 + a x + b over the numbers modulo a prime, as ../shared/DOC.md promises them.
  * A POINT is held as it is told: 16384 x + y, or -1 for INFINITY, so that sums make no objects.
@@ -820,7 +818,9 @@ public final class PointRings {
                 return;
             }
             prime = p;
-            Arrays.fill(least, 0, p, NONE);
+            for (int v = 0; v < p; v++) {
+                least[v] = NONE;
+            }
             // from the greatest root down, so that the least one stays
             for (int r = p / 2; r >= 0; r--) {
                 least[r * r % p] = r;
