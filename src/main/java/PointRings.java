@@ -151,7 +151,7 @@ public final class PointRings {
 
     public int nth(int c, int k) {
         Curve e = at(c);
-        if (e == null || k < 0) {
+        if (e == null) {
             return BAD;
         }
         return k == 0 ? INFINITY : survey.pointNumber(e, k);
@@ -299,10 +299,10 @@ public final class PointRings {
 
     public int half(int c, int p, int i) {
         Curve e = at(c);
-        if (e == null || !e.holds(p) || i < 0) {
+        if (e == null || !e.holds(p)) {
             return BAD;
         }
-        return i < survey.findHalves(e, p) ? survey.foundHalf(i) : NONE;
+        return i >= 0 && i < survey.findHalves(e, p) ? survey.foundHalf(i) : NONE;
     }
 
     public int log(int c, int p, int q) {
@@ -949,8 +949,11 @@ public final class PointRings {
             return y < 0 ? INFINITY : pair(x, y);
         }
 
-        /** POINT k by order, k above 0; NONE. */
+        /** POINT k by order of those behind INFINITY; NONE. */
         int pointNumber(Curve e, int k) {
+            if (k < 1) {
+                return NONE;
+            }
             int ahead = 1;
             for (int x = 0; x < e.p; x++) {
                 int many = manyAt(e.cubic(x), e.p);

@@ -73,6 +73,8 @@ final class Comparison {
             }
         }
         check.due(name + "nth N", r.nth(0, n), -1);
+        check.due(name + "nth -1", r.nth(0, -1), -1);
+        check.due(name + "nth -2", r.nth(0, -2), -1);
         for (int i = 0; i < Math.min(samples, e.p); i++) {
             int x = samples > 100 ? i : random.nextInt(e.p);
             int y = random.nextInt(e.p);

@@ -200,7 +200,10 @@ public final class PromisesTest {
         due("14: the last", r.nth(0, 27), 311314);
         due("14: beyond", r.nth(0, 28), NONE);
         due("14: far beyond", r.nth(0, Integer.MAX_VALUE), NONE);
-        due("14: below 0", r.nth(0, -1), BAD);
+        for (int k : new int[] {-1, -2, -27, -28, Integer.MIN_VALUE}) {
+            due("14: below 0: " + k, r.nth(0, k), NONE);
+        }
+        due("14: below 0, as the issue has it", with(7, 0, 1).nth(0, -1), NONE);
         due("15: INFINITY", r.rank(0, INFINITY), 0);
         due("15: 1", r.rank(0, 1), 1);
         due("15: y 0", r.rank(0, 65536), 7);
@@ -214,6 +217,7 @@ public final class PromisesTest {
             due("12: no curve " + c, r.lift(c, 0, true), BAD);
             due("13: no curve " + c, r.near(c, 0), BAD);
             due("14: no curve " + c, r.nth(c, 0), BAD);
+            due("14: below 0 of no curve " + c, r.nth(c, -1), BAD);
             due("15: no curve " + c, r.rank(c, INFINITY), BAD);
         }
     }
@@ -386,7 +390,13 @@ public final class PromisesTest {
         due("30: 4", r.half(0, 1310730, 4), NONE);
         due("30: the greatest int", r.half(0, 1310730, Integer.MAX_VALUE), NONE);
         due("30: of one without", r.half(0, 10, 0), NONE);
-        due("30: below 0", r.half(0, 1310730, -1), BAD);
+        for (int i : new int[] {-1, -2, -4, Integer.MIN_VALUE}) {
+            due("30: below 0: " + i, r.half(0, 1310730, i), NONE);
+            due("30: of INFINITY below 0: " + i, r.half(0, INFINITY, i), NONE);
+            due("30: of one without below 0: " + i, r.half(0, 10, i), NONE);
+            due("30: of no POINT below 0: " + i, r.half(0, 11, i), BAD);
+        }
+        due("30: below 0, as the issue has it", with(73, 0, 1).half(0, 1, -1), NONE);
         due("30: no POINT", r.half(0, 11, 0), BAD);
         due("30: both y", with(23, 1, 1).half(0, 65536, 0), 180227);
         due("30: both y", with(23, 1, 1).half(0, 65536, 1), 180244);
@@ -411,6 +421,7 @@ public final class PromisesTest {
         for (int c : NO_CURVES) {
             due("29: no curve " + c, r.halves(c, INFINITY), BAD);
             due("30: no curve " + c, r.half(c, INFINITY, 0), BAD);
+            due("30: below 0 of no curve " + c, r.half(c, INFINITY, -1), BAD);
             due("31: no curve " + c, r.log(c, INFINITY, INFINITY), BAD);
             due("32: no curve " + c, r.embedding(c, 2), BAD);
         }
