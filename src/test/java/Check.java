@@ -2,11 +2,22 @@
 final class Check {
     private static final int MOST_PRINTED = 40;
     private final String name;
+    private String sentence = "";
+    private int sentences;
+    private int beforeSentence;
     private int passed;
     private int failed;
 
     Check(String name) {
         this.name = name;
+    }
+
+    /** From here on answers are due by these words of the document. */
+    void sentence(String words) {
+        endSentence();
+        sentence = "[" + words + "] ";
+        sentences++;
+        beforeSentence = passed + failed;
     }
 
     void due(String call, long got, long want) {
@@ -16,7 +27,7 @@ final class Check {
         }
         failed++;
         if (failed <= MOST_PRINTED) {
-            System.out.println(name + ": " + call + " answered " + got + ", due is " + want);
+            System.out.println(name + ": " + sentence + call + " answered " + got + ", due is " + want);
         }
     }
 
@@ -25,9 +36,18 @@ final class Check {
     }
 
     void end() {
-        System.out.println(name + ": " + passed + " answers as due, " + failed + " not");
+        endSentence();
+        String tested = sentences == 0 ? "" : " (" + sentences + " sentences)";
+        System.out.println(name + ": " + passed + " answers as due, " + failed + " not" + tested);
         if (failed > 0 || passed == 0) {
             System.exit(1);
+        }
+    }
+
+    /** A sentence that is named but not tested is a fault of the test. */
+    private void endSentence() {
+        if (sentences > 0 && passed + failed == beforeSentence) {
+            holds("has no test", false);
         }
     }
 }
