@@ -22,14 +22,12 @@ public final class PointRings {
 
     private final Curve[] held;
     private int size;
-    private final Roots roots;
     private final Survey survey;
 
     public PointRings() {
         held = new Curve[MOST_CURVES];
         size = 0;
-        roots = new Roots();
-        survey = new Survey(roots);
+        survey = new Survey();
     }
 
     public int curve(int p, int a, int b) {
@@ -88,7 +86,7 @@ public final class PointRings {
 
     public int root(int c, int v) {
         Curve e = at(c);
-        return e == null ? BAD : roots.leastRoot(Math.floorMod(v, e.p), e.p);
+        return e == null ? BAD : survey.leastRoot(Math.floorMod(v, e.p), e.p);
     }
 
     public int inverse(int c, int v) {
@@ -126,12 +124,12 @@ public final class PointRings {
         if (e == null || !Whole.isBelow(x, e.p)) {
             return BAD;
         }
-        int y = roots.leastRoot(e.cubic(x), e.p);
-        if (y < 0 || (y == 0 && odd)) {
+        int lesser = survey.lesserAt(e, x);
+        if (lesser == INFINITY || (yOf(lesser) == 0 && odd)) {
             return NONE;
         }
         // p is odd, so of y and p - y just one is odd
-        return pair(x, (y % 2 == 1) == odd ? y : e.p - y);
+        return (yOf(lesser) % 2 == 1) == odd ? lesser : e.opposite(lesser);
     }
 
     public int near(int c, int h) {
@@ -910,10 +908,15 @@ public final class PointRings {
         /** The halves that were found last: at most four, as twice comes to INFINITY of at most four. */
         private final int[] halvesFound;
 
-        Survey(Roots roots) {
-            this.roots = roots;
+        Survey() {
+            roots = new Roots();
             strides = new Strides();
             halvesFound = new int[4];
+        }
+
+        /** The least square root of v modulo p; NONE. */
+        int leastRoot(int v, int p) {
+            return roots.leastRoot(v, p);
         }
 
         int sizeOf(Curve e) {
